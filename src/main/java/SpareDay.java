@@ -889,7 +889,7 @@ public final class SpareDay {
             return count;
         }
 
-        /** Every row is written: one gone back to may have held somebody else there. */
+        /** Every row is written, so that nothing hangs on what stood there. */
         private int welcome(int age, int personsNeed) {
             int p = people;
             if (p >= MOST_PEOPLE) {

@@ -127,6 +127,13 @@ public final class PromisesTest {
         }
         C.due("set another", false, x.set(6, 0, 1));
         C.due("set another", false, x.set(-1, 0, 1));
+        x.set(5, 1, 9);
+        x.set(4, 1, 8);
+        x.set(3, 1, 7);
+        C.due("each alone", 7, x.of(1, 1));
+        C.due("each alone", 8, x.of(1, 2));
+        C.due("each alone", 9, x.of(1, 0));
+        C.due("each alone", 24, x.look(2));
         C.due("others as they were", 5, x.of(0, 1));
         C.due("others as they were", 30, x.of(0, 0));
         C.due("others as they were", 999, x.of(0, 2));
@@ -190,6 +197,11 @@ public final class PromisesTest {
         C.due("age ends", 99, x.of(0, 0));
         C.due("since does not", 999, x.of(0, 4));
         C.due("in thought they go on", -1, x.given(40, 0));
+        x = Check.people(2);
+        Check.tell(x, 1, "1 names 0;");
+        C.due("how often it was given, to 0 too", 5, x.years(5));
+        Check.tell(x, 1, "");
+        C.due("kept", 0, x.years(5));
     }
 
     private static SpareDay withWorks() {
@@ -261,7 +273,16 @@ public final class PromisesTest {
         int third = 1664525 * 1196435762 + 1013904223;
         C.due("the third", third, x.look(8));
         C.due("below 0", true, third < 0);
-        C.due("its highest bits", (third >>> 8) % 1000 < 500, x.look(5) == 1);
+        C.due("its highest bits, without a sign", 1, x.look(5));
+        x.undo();
+        C.due("not yet", 0, x.look(5));
+        Check.tell(x, 0, "notice " + (third >>> 8) % 1000 + ";");
+        x.years(1);
+        C.due("not below itself", 0, x.look(5));
+        x.undo();
+        Check.tell(x, 0, "notice " + ((third >>> 8) % 1000 + 1) + ";");
+        x.years(1);
+        C.due("below one more", 1, x.look(5));
         x = withWorks();
         x.years(1);
         C.due("without a line: used by 8", 10 / 8, x.look(2));
@@ -322,8 +343,10 @@ public final class PromisesTest {
         C.due("only 3 does", 3, x.look(15));
         Check.tell(x, 0, "weight 0 when person = 0;");
         C.due("a sum above 0", -1, x.look(15));
-        Check.tell(x, 0, "weight 0 - 5;");
         Check.tell(x, 3, "");
+        Check.tell(x, 0, "weight used;");
+        C.due("a weight is asked with 0 used", -1, x.look(15));
+        Check.tell(x, 0, "weight 0 - 5;");
         C.due("none above 0", -1, x.look(15));
         C.due("kept", 0, x.years(1));
         Check.tell(x, 0, "weight 0 when person = 0;");
@@ -546,6 +569,9 @@ public final class PromisesTest {
         C.due("0 3", false, x.does(9));
         Check.tell(x, 3, "most 5");
         C.due("more than there are", false, x.does(-1));
+        Check.tell(x, 3, "most 1");
+        C.due("one", true, x.does(8));
+        C.due("none", false, x.does(16));
     }
 
     // Promise 17
@@ -576,7 +602,14 @@ public final class PromisesTest {
         Check.tell(x, 2, "work 0 for 9 worth 5 dust 0 wax 0; work 0 for 3 worth 3 dust 0 wax 0; work 0 for 5 worth 2 dust 0 wax 0;"
                 + "work 0 for 8 worth 5 dust 0 wax 0; work 0 for 8 worth 5 dust 0 wax 0; work 0 for 1 worth 0 dust 0 wax 0;");
         C.due("the fewest hours, then the least: 1 and 2, not 0, 3 or 4", 6, x.plan(0, 9, 2));
+        Check.tell(x, 2, twelve("for2worth1dust0wax0;"));
+        C.due("all twelve", 4095, x.plan(0, 24, 2));
+        C.due("all but one", 2047, x.plan(0, 23, 2));
         C.due("8 hours", 8, x.plan(0, 9, 1));
+    }
+
+    private static String twelve(String rest) {
+        return ("work0" + rest).repeat(12);
     }
 
     // Promise 18
@@ -732,6 +765,8 @@ public final class PromisesTest {
         SpareDay x = withWorks();
         C.due("nothing was done: the empty set", 1, x.fits(2, 0));
         C.due("nothing was done: the empty set", 0, x.fits(2, 1));
+        C.due("another what", -1, x.fits(2, 2));
+        C.due("another what", -1, x.fits(2, -1));
         x.traces(3, 3);
         C.due("0 and 2, or 3", 2, x.fits(2, 0));
         C.due("the least", 5, x.fits(2, 1));
@@ -742,8 +777,6 @@ public final class PromisesTest {
         C.due("30 hours", 0, x.fits(2, 0));
         x.traces(1, 1);
         C.due("not another's", 0, x.fits(0, 0));
-        C.due("another what", -1, x.fits(2, 2));
-        C.due("another what", -1, x.fits(2, -1));
         C.due("nobody", -1, x.fits(3, 0));
         C.due("none", -1, x.fits(-1, 0));
         x.set(0, 0, 18);
@@ -758,6 +791,12 @@ public final class PromisesTest {
         C.due("2 and 3", 12, x.fits(2, 1));
         x.traces(1, 2);
         C.due("the done fit too", 1, x.fits(2, 1));
+        Check.tell(x, 2, twelve("for2worth0dust1wax2;"));
+        x.traces(12, 24);
+        C.due("all twelve", 4095, x.fits(0, 1));
+        x.traces(6, 12);
+        C.due("924 sets", 924, x.fits(0, 0));
+        C.due("the least", 63, x.fits(0, 1));
     }
 
     // Promise 25
@@ -792,6 +831,8 @@ public final class PromisesTest {
         C.due("an hour in halves", 29, x.share(10, 15, 1));
         C.due("more than there is", 24, x.share(48, 30, 0));
         C.due("all to one", 48, x.share(0, 48, 1));
+        C.due("all to one", 48, x.share(48, 0, 0));
+        C.due("no claims", 0, x.share(0, 0, 1));
         C.due("nothing to one", 0, x.share(0, 48, 0));
         x.sit(9);
         C.due("of 15 hours", 15, x.share(20, 15, 0));
@@ -864,6 +905,8 @@ public final class PromisesTest {
         C.due("is there", 0, x.rests(3));
         x.sit(12);
         C.due("is there", 0, x.rests(24));
+        x.set(0, 0, 11);
+        C.due("1 by 24", 1, x.rests(24));
         x.set(2, 0, 24);
         x.set(0, 0, 0);
         C.due("24 by 5", 5, x.rests(5));
@@ -920,6 +963,8 @@ public final class PromisesTest {
         x.person(1, 24);
         C.due("need", 39, x.due(0));
         C.due("by", 999, x.due(1));
+        C.due("another what", -1, x.due(2));
+        C.due("another what", -1, x.due(-1));
         x.set(4, 0, 5);
         x.set(4, 1, 3);
         x.set(4, 2, 9);
@@ -938,8 +983,6 @@ public final class PromisesTest {
         x.years(1);
         C.due("none such", -1, x.due(1));
         C.due("need all the same", 31, x.due(0));
-        C.due("another what", -1, x.due(2));
-        C.due("another what", -1, x.due(-1));
     }
 
     // Promise 33
@@ -1022,6 +1065,10 @@ public final class PromisesTest {
         x.years(1);
         C.due("2", 2, x.spread(0));
         C.due("0", 0, x.spread(1));
+        x.years(1);
+        C.due("had 2, 3, 1", 2, x.spread(0));
+        x.years(8);
+        C.due("had 10, 3, 1", 9, x.spread(0));
         C.due("another what", -1, x.spread(2));
         C.due("another what", -1, x.spread(-1));
     }
@@ -1050,7 +1097,10 @@ public final class PromisesTest {
 
     // Promise 38
     private static void clique() {
-        SpareDay x = Check.people(6);
+        SpareDay x = new SpareDay();
+        C.due("none", 0, x.clique(0));
+        C.due("nobody", 0, x.clique(1));
+        x = Check.people(6);
         C.due("one", 1, x.clique(0));
         C.due("the least", 1, x.clique(1));
         x.tie(4, 5, true);
@@ -1170,18 +1220,19 @@ public final class PromisesTest {
         x.tie(0, 2, true);
         x.bid(1, 5);
         x.bid(0, 4);
-        x.years(2);
         x.traces(3, 4);
+        x.years(2);
         x.sit(1);
         C.due("none yet", false, x.image(false));
         C.due("taken", true, x.image(true));
-        C.due("what can be undone stays", 1, x.look(14));
+        C.due("what can be undone stays", 3, x.look(14));
         int[] before = everything(x);
         for (int round = 0; round < 2; round++) {
             x.undo();
+            x.undo();
+            x.undo();
+            Check.tell(x, 3, "");
             x.years(3);
-            x.undo();
-            x.undo();
             x.undo();
             x.person(3, 3);
             x.set(1, 0, 9);
@@ -1192,6 +1243,7 @@ public final class PromisesTest {
             x.tie(0, 1, true);
             x.bid(-1, 0);
             x.bid(2, 8);
+            x.bid(2, 18);
             x.state(4);
             x.traces(1, 1);
             Check.tell(x, 0, "wear 24; weight 1;");

@@ -51,7 +51,15 @@ public final class TextsTest {
         bad(0, "^weightwear 1;", 1);
         bad(0, "^wea 1;", 1);
         bad(0, "^Wear 1;", 1);
-        bad(0, "^wearX 1;", 1);
+        bad(0, "^wearA 1;", 1);
+        bad(0, "^wearZ 1;", 1);
+        bad(0, "^weara 1;", 1);
+        bad(0, "^wearz 1;", 1);
+        bad(0, "wear^[1;", 1);
+        bad(0, "wear^{1;", 1);
+        bad(0, "wear^@1;", 1);
+        bad(0, "wear^`1;", 1);
+        bad(0, "wear 1^:2;", 1);
         bad(0, "wear ^00001;", 1);
         bad(0, "wear 1^a;", 1);
         bad(0, "wear 1 ^2;", 1);
@@ -136,6 +144,7 @@ public final class TextsTest {
 
     private static void sums() {
         sum("7 - 2 - 3", 2);
+        sum("7 / 1", 7);
         sum("7 - 2 + 3", 8);
         sum("2 + 3 * 4", 14);
         sum("2 * 3 + 4", 10);
@@ -328,5 +337,18 @@ public final class TextsTest {
         good(x, 3, many.append(" ").toString(), 133);
         C.due("many", true, x.does(4));
         C.due("none of many", false, x.does(0));
+        for (int i = 0; i < 4; i++) {
+            // told often, a text begins anew each time
+            good(x, 3, many.toString(), 133);
+            C.due("many", true, x.does(2));
+            C.due("none of many", false, x.does(0));
+        }
+        good(x, 3, "2", 1);
+        C.due("0 no more", false, x.does(3));
+        good(x, 3, "most 1", 1);
+        for (int i = 0; i < 20; i++) {
+            good(x, 0, "wear 1" + "+1".repeat(i) + "+used-used".repeat(20) + ";", 1);
+            C.due("a long sum", i + 1, x.after(0, 7, false));
+        }
     }
 }
