@@ -1232,6 +1232,7 @@ public final class PromisesTest {
             x.undo();
             x.undo();
             Check.tell(x, 3, "");
+            Check.tell(x, 1, "2 names 0;");
             x.years(3);
             x.undo();
             x.person(3, 3);
@@ -1244,6 +1245,7 @@ public final class PromisesTest {
             x.bid(-1, 0);
             x.bid(2, 8);
             x.bid(2, 18);
+            x.bid(2, 28);
             x.state(4);
             x.traces(1, 1);
             Check.tell(x, 0, "wear 24; weight 1;");
