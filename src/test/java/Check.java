@@ -2,12 +2,18 @@
 final class Check {
     private int asked = 0;
     private int wrong = 0;
+    private String test = "";
+
+    /** What is asked from here on belongs to this test. */
+    void under(String name) {
+        test = name.isEmpty() ? "" : name + ": ";
+    }
 
     void due(String call, long want, long got) {
         asked++;
         if (got != want) {
             wrong++;
-            System.out.println(call + " answered " + got + ", due is " + want);
+            System.out.println(test + call + " answered " + got + ", due is " + want);
         }
     }
 

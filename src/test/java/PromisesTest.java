@@ -1276,17 +1276,17 @@ public final class PromisesTest {
     }
 
     private static int[] everything(SpareDay x) {
-        int[] all = new int[400];
+        int[] all = new int[142];
         int n = 0;
         for (int i = 0; i < 18; i++) {
             all[n++] = i == 14 ? 0 : x.look(i);
         }
-        for (int p = 0; p < 5; p++) {
+        for (int p = 0; p < 4; p++) {
             for (int what = 0; what < 9; what++) {
                 all[n++] = x.of(p, what);
             }
         }
-        for (int i = 0; i < 12; i++) {
+        for (int i = 0; i < 8; i++) {
             for (int what = 0; what < 4; what++) {
                 all[n++] = x.book(i, what);
             }

@@ -17,25 +17,15 @@ public final class TextsTest {
     }
 
     private static SpareDay realm() {
-        SpareDay x = Check.people(3);
-        Check.tell(x, 2, "work 1 for 1 worth 1 dust 1 wax 1;");
-        return x;
+        return Told.realm();
     }
 
     private static void good(SpareDay x, int k, String text, int lines) {
-        C.due("told: " + text, lines, Check.tell(x, k, text));
-        C.due("fault of: " + text, 0, x.fault(0));
-        C.due("place of: " + text, -1, x.fault(1));
+        Told.good(C, x, k, text, lines);
     }
 
-    /** The FAULT is where the text has a ^, which is left out. */
     private static void bad(int k, String marked, int fault) {
-        int place = marked.indexOf('^');
-        String text = marked.substring(0, place) + marked.substring(place + 1);
-        SpareDay x = realm();
-        C.due("told: " + marked, -1, Check.tell(x, k, text));
-        C.due("fault of: " + marked, fault, x.fault(0));
-        C.due("place of: " + marked, place, x.fault(1));
+        Told.bad(C, k, marked, fault);
     }
 
     private static void tokens() {
@@ -346,6 +336,7 @@ public final class TextsTest {
         good(x, 3, "2", 1);
         C.due("0 no more", false, x.does(3));
         good(x, 3, "most 1", 1);
+        x = realm();
         for (int i = 0; i < 20; i++) {
             good(x, 0, "wear 1" + "+1".repeat(i) + "+used-used".repeat(20) + ";", 1);
             C.due("a long sum", i + 1, x.after(0, 7, false));
